@@ -1459,24 +1459,27 @@ public final class CellFigures {
         private static final int MOST_TRIES = 20000;
         private static final int DEEPEST = LONGEST * LONGEST;
 
+        private final long[] figures = new long[Row.ROOM];
         private final int[] firsts = new int[Row.ROOM];
         private final int[] widths = new int[Row.ROOM];
         private final int[] heights = new int[Row.ROOM];
+        /** What is covered at a depth (all beyond the rectangle is), the first place that isn't, the next to try. */
         private final long[] covered = new long[DEEPEST];
+        private final int[] places = new int[DEEPEST];
         private final int[] next = new int[DEEPEST];
+        private int size;
 
         /** The ways to fill w by h by the figures of a row; NONE after too many tries. */
-        int search(int w, int h, Row figures) {
-            measure(figures);
-            covered[0] = ~((Grid.ROW >>> 8 - w) * (Grid.COLUMN >>> 8 * (8 - h)));
-            next[0] = 0;
+        int search(int w, int h, Row row) {
+            measure(row);
+            open(0, ~((Grid.ROW >>> 8 - w) * (Grid.COLUMN >>> 8 * (8 - h))));
             int depth = 0;
             int tries = 0;
             int found = 0;
             // Each round is a try or a way back, and there are no more ways back than tries and one.
             for (int round = 0; round <= 2 * MOST_TRIES + 2 && depth >= 0; round++) {
                 int k = next[depth];
-                if (k >= figures.size()) {
+                if (k >= size) {
                     depth--;
                     continue;
                 }
@@ -1485,36 +1488,42 @@ public final class CellFigures {
                 if (tries > MOST_TRIES) {
                     return NONE;
                 }
-                long now = covered[depth] | laid(figures.at(k), k, covered[depth], w, h);
-                if (now == -1L) {
+                long laid = laid(k, depth, w, h);
+                if ((laid | covered[depth]) == -1L) {
                     found++;
-                } else if (now != covered[depth] && depth + 1 < DEEPEST) {
+                } else if (laid != 0 && depth + 1 < DEEPEST) {
                     depth++;
-                    covered[depth] = now;
-                    next[depth] = 0;
+                    open(depth, laid | covered[depth - 1]);
                 }
             }
             return found;
         }
 
-        private void measure(Row figures) {
-            for (int k = 0; k < figures.size() && k < Row.ROOM; k++) {
-                firsts[k] = Grid.lowest(figures.at(k));
-                widths[k] = Grid.width(figures.at(k));
-                heights[k] = Grid.height(figures.at(k));
+        private void measure(Row row) {
+            size = Math.min(row.size(), Row.ROOM);
+            for (int k = 0; k < size; k++) {
+                figures[k] = row.at(k);
+                firsts[k] = Grid.lowest(figures[k]);
+                widths[k] = Grid.width(figures[k]);
+                heights[k] = Grid.height(figures[k]);
             }
         }
 
+        private void open(int depth, long taken) {
+            covered[depth] = taken;
+            places[depth] = Grid.lowest(~taken);
+            next[depth] = 0;
+        }
+
         /** The k-th figure with its first cell on the first place that is free; 0 if it doesn't go there. */
-        private long laid(long figure, int k, long taken, int w, int h) {
-            int place = Grid.lowest(~taken);
-            int left = (place & 7) - firsts[k];
-            int top = place >> 3;
+        private long laid(int k, int depth, int w, int h) {
+            int left = (places[depth] & 7) - firsts[k];
+            int top = places[depth] >> 3;
             if (left < 0 || left + widths[k] > w || top + heights[k] > h) {
                 return 0;
             }
-            long there = figure << 8 * top + left;
-            return (there & taken) == 0 ? there : 0;
+            long there = figures[k] << 8 * top + left;
+            return (there & covered[depth]) == 0 ? there : 0;
         }
     }
 
