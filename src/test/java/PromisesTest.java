@@ -19,6 +19,10 @@ public final class PromisesTest {
     /** The same without a corner too: two cells lie aslant. */
     private static final long OPEN_RING = 7 + (5 << 8) + (3 << 16);
     private static final long THREE_BY_FOUR = 0x0F0F0F;
+    /** Seven down with a hook to the right, whose cave opens below alone. */
+    private static final long HOOK = 0x05050701010101L;
+    /** Seven across, and five down from the last. */
+    private static final long CORNER_12 = 127 | 64L << 8 | 64L << 16 | 64L << 24 | 64L << 32 | 64L << 40;
 
     private static int promise;
     private static int wrong;
@@ -265,6 +269,12 @@ public final class PromisesTest {
         due("told(3, 15)", x.told(3, 15), NONE);
         x = with(6 + (3 << 8));
         due("SAME of S", x.told(0, 13), 2);
+        for (int t = 0; t < 8; t++) {
+            x = with(HOOK);
+            x.turn(0, t);
+            due("no hole in a cave, turn " + t, x.told(0, 4), 0);
+            due("no places in holes, turn " + t, x.told(0, 5), 0);
+        }
     }
 
     private static void cell() {
@@ -319,6 +329,12 @@ public final class PromisesTest {
         due("turn(8, 0)", x.turn(8, 0), NONE);
         due("number(0, 0) stays", x.number(0, 0), L);
         due("turn of a pillar", with(PILLAR_7).turn(0, 5), BAR_7);
+        // Five across and five down: what lies at (4, 0) and what at (0, 4) are there both, whatever the turn.
+        long five = 31 | 1L << 8 | 1L << 16 | 1L << 24 | 1L << 32;
+        long[] fives = {five, 31 | 16L << 8 | 16L << 16 | 16L << 24 | 16L << 32,
+            16 | 16L << 8 | 16L << 16 | 16L << 24 | 31L << 32, 1 | 1L << 8 | 1L << 16 | 1L << 24 | 31L << 32};
+        for (int t = 0; t < 4; t++) due("turn of two fives by " + t, with(five).turn(0, t), fives[t]);
+        due("turn of two fives by 4", with(five).turn(0, 4), fives[1]);
     }
 
     private static void alike() {
@@ -441,6 +457,8 @@ public final class PromisesTest {
         due("many of SAME 1", x.many(5, 2, 13, 1, 1), 5);
         due("many of all values", x.many(6, 2, 7, Integer.MIN_VALUE, Integer.MAX_VALUE), 35);
         due("again", x.many(6, 2, 7, Integer.MIN_VALUE, Integer.MAX_VALUE), 35);
+        due("none of the next size", x.many(4, 0, 0, 5, 5), 0);
+        due("none of the size before", x.many(4, 0, 0, 3, 3), 0);
         due("high below low", x.many(4, 2, 3, 10, 9), NONE);
         due("what 15", x.many(4, 2, 15, 0, 9), NONE);
         due("what -1", x.many(4, 2, -1, 0, 9), NONE);
@@ -457,6 +475,9 @@ public final class PromisesTest {
         due("found, k 4", x.found(4, 2, 3, 10, 10, 4), -2);
         due("found with a hole", x.found(7, 2, 4, 1, 1, 0), OPEN_RING);
         due("found none", x.found(4, 2, 3, 9, 9, 0), -2);
+        due("none of the next size", x.found(4, 0, 0, 5, 5, 0), -2);
+        due("none of the next size", x.found(4, 1, 0, 4, 5, 7), -2);
+        due("none of the next size", x.found(4, 2, 0, 4, 5, 5), -2);
         due("k -1", x.found(4, 2, 3, 10, 10, -1), NONE);
         due("high below low", x.found(4, 2, 3, 10, 9, 0), NONE);
         due("what 15", x.found(4, 2, 15, 0, 9, 0), NONE);
@@ -596,6 +617,11 @@ public final class PromisesTest {
         }
         String u = "010301122233";
         for (int i = 0; i < 12; i++) due("line(5, " + i + ")", x.line(5, i), u.charAt(i) - '0');
+        String longest = "00000001111112333332222223";
+        CellFigures y = with(CORNER_12);
+        for (int i = 0; i < 26; i++) due("the longest, " + i, y.line(0, i), longest.charAt(i) - '0');
+        due("behind the longest", y.line(0, 26), -4);
+        due("a cave is no hole", with(HOOK).line(0, 0), 0);
         due("line(1, greatest)", x.line(1, Integer.MAX_VALUE), -4);
         due("a hole", x.line(3, 0), -3);
         due("a hole and two aslant", x.line(4, 99), -3);
@@ -625,6 +651,10 @@ public final class PromisesTest {
         due("tiles(4, 0)", x.tiles(4, 0), 8);
         due("tiles(4, 2)", x.tiles(4, 2), 0);
         due("tiles(4, 3)", x.tiles(4, 3), 1);
+        // The corner of twelve tiles as every such one does: what stands 13 on from each side is its other side.
+        Model model = new ModelWith(CORNER_12).model;
+        for (int what = 0; what < 6; what++) due("of the corner, " + what, with(CORNER_12).tiles(0, what), model.tiles(0, what));
+        due("the corner of twelve tiles", with(CORNER_12).tiles(0, 0) > 0, true);
         due("tiles(0, 6)", x.tiles(0, 6), NONE);
         due("tiles(5, -1)", x.tiles(5, -1), NONE);
         due("tiles(8, 0)", x.tiles(8, 0), NONE);
@@ -751,6 +781,8 @@ public final class PromisesTest {
         // Two by three: two angles, turned by a half, in two ways; three across twice.
         partsOf(7 + (7 << 8), 208, 3, 1, 3, 3, 3, 15, 0);
         partsOf(RING, 512, 2, 0, 4, 4, 4, 8, 0);
+        // An L and its mirror image hand in hand are one by FREE alone.
+        partsOf(63 + (33 << 8), 128, 1, 0, 0, 1, 7, 1, 0);
         due("trees of three by four", with(THREE_BY_FOUR).part(0, 6), 2415);
         due("twos in three by four", with(THREE_BY_FOUR).part(0, 1), 11);
         CellFigures x = with(T);
@@ -910,6 +942,9 @@ public final class PromisesTest {
         touchAll(x, 2, 1, 5, 10, 3, 11, 10, 6);
         touchAll(x, 1, 2, 5, 10, 3, 9, 10, 6);
         touchAll(x, 3, 3, 13, 28, 7, 10, 9, 14);
+        x.put(4, PILLAR_7);
+        touchAll(x, 4, 4, 13, 28, 7, 9, 10, 14);
+        x.take(4);
         due("touch(4, 0, 0)", x.touch(4, 0, 0), -2);
         due("touch(0, 4, 5)", x.touch(0, 4, 5), -2);
         due("touch(0, 4, 6)", x.touch(0, 4, 6), NONE);

@@ -1,5 +1,6 @@
 import java.util.List;
 import java.util.Random;
+import java.util.TreeSet;
 
 /** Runs of 512 calls on new objects, by lots that are the same each time; each answer is compared with Model's. */
 public final class RandomRunsTest {
@@ -8,18 +9,16 @@ public final class RandomRunsTest {
     private final Random lots;
     private final CellFigures real = new CellFigures();
     private final Model model = new Model();
-    private final int run;
     private String call = "";
     private long got;
     private long due;
 
     private RandomRunsTest(int run) {
-        this.run = run;
         lots = new Random(7919L * run + 17);
     }
 
     public static void main(String[] args) {
-        int runs = args.length > 0 ? Integer.parseInt(args[0]) : 60;
+        int runs = args.length > 0 ? Integer.parseInt(args[0]) : 150;
         int wrong = 0;
         for (int run = 1; run <= runs && wrong < 20; run++) {
             RandomRunsTest test = new RandomRunsTest(run);
@@ -84,10 +83,30 @@ public final class RandomRunsTest {
         else pairs();
     }
 
+    /** A long thin figure: cells one beside the other, till there are n or none is left. */
+    private long snake(int n) {
+        TreeSet<Model.P> cells = new TreeSet<>();
+        Model.P at = new Model.P(lots.nextInt(7), lots.nextInt(7));
+        cells.add(at);
+        for (int i = 0; i < 60 && cells.size() < n; i++) {
+            Model.P next = at.sides().get(lots.nextInt(3) == 0 ? lots.nextInt(4) : i / 12 % 4);
+            if (next.x() >= 0 && next.x() < 7 && next.y() >= 0 && next.y() < 7) {
+                cells.add(next);
+                at = next;
+            }
+        }
+        return Model.numberOf(Model.home(cells));
+    }
+
     private void fillDrawers() {
         int d = drawer();
-        int die = lots.nextInt(10);
-        if (die < 4) {
+        int die = lots.nextInt(12);
+        if (die >= 10) {
+            long number = snake(1 + lots.nextInt(12));
+            say("put", d, number);
+            got = real.put(d, number) ? 1 : 0;
+            due = model.put(d, number) ? 1 : 0;
+        } else if (die < 4) {
             int seed = lots.nextInt();
             int n = near(1, lots.nextInt(3) == 0 ? 12 : 7);
             say("drawn", d, seed, n);
