@@ -1,32 +1,5 @@
 /** The promises of the document one by one: ordinary calls, the edges that it names, wrong calls. */
-public final class PromisesTest {
-    private static final int NONE = CellFigures.NONE;
-    private static final long ONE = 1;
-    private static final long TWO_ACROSS = 3;
-    private static final long TWO_DOWN = 257;
-    private static final long BAR_3 = 7;
-    private static final long ANGLE = 259;
-    private static final long BAR_4 = 15;
-    private static final long BAR_7 = 127;
-    private static final long PILLAR_7 = 0x01010101010101L;
-    private static final long T = 519;
-    private static final long SQUARE = 771;
-    private static final long L = 263;
-    private static final long U = 5 + (7 << 8);
-    private static final long CROSS = 2 + (7 << 8) + (2 << 16);
-    /** Three by three without the middle. */
-    private static final long RING = 7 + (5 << 8) + (7 << 16);
-    /** The same without a corner too: two cells lie aslant. */
-    private static final long OPEN_RING = 7 + (5 << 8) + (3 << 16);
-    private static final long THREE_BY_FOUR = 0x0F0F0F;
-    /** Seven down with a hook to the right, whose cave opens below alone. */
-    private static final long HOOK = 0x05050701010101L;
-    /** Seven across, and five down from the last. */
-    private static final long CORNER_12 = 127 | 64L << 8 | 64L << 16 | 64L << 24 | 64L << 32 | 64L << 40;
-
-    private static int promise;
-    private static int wrong;
-
+public final class PromisesTest extends TestBase {
     private PromisesTest() {
     }
 
@@ -70,51 +43,11 @@ public final class PromisesTest {
         share();
         touch();
         count();
-        System.out.println(wrong == 0 ? "promises: all answers are as due" : "promises: " + wrong + " answers are not as due");
-        if (wrong != 0) {
-            System.exit(1);
-        }
-    }
-
-    private static void due(String call, long got, long want) {
-        if (got != want) {
-            wrong++;
-            System.out.println("promise " + promise + ": " + call + " answered " + got + ", due is " + want);
-        }
-    }
-
-    private static void due(String call, boolean got, boolean want) {
-        due(call, got ? 1 : 0, want ? 1 : 0);
-    }
-
-    private static CellFigures with(long... numbers) {
-        CellFigures x = new CellFigures();
-        for (int d = 0; d < numbers.length; d++) {
-            if (numbers[d] != 0 && !x.put(d, numbers[d])) due("put of " + numbers[d], 0, 1);
-        }
-        return x;
-    }
-
-    private static int word(String text, int at) {
-        int w = 0;
-        for (int i = at; i < at + 4; i++) w = w << 8 | (i < text.length() ? text.charAt(i) : 'x');
-        return w;
-    }
-
-    /** Feeds a text, and others behind it till the last twenty are whole. */
-    private static void tape(CellFigures x, String text) {
-        for (int i = 0; i < text.length(); i += 20) {
-            x.feed(word(text, i), word(text, i + 4), word(text, i + 8), word(text, i + 12), word(text, i + 16));
-        }
-    }
-
-    private static int read(CellFigures x, int d, String text) {
-        tape(x, text);
-        return x.figure(d, text.length());
+        end("promises");
     }
 
     private static void newObject() {
-        promise = 1;
+        promise(1);
         CellFigures x = new CellFigures();
         for (int d = 0; d < 8; d++) due("told(" + d + ", 0)", x.told(d, 0), -2);
         due("count(0)", x.count(0), 0);
@@ -125,7 +58,7 @@ public final class PromisesTest {
     }
 
     private static void feed() {
-        promise = 2;
+        promise(2);
         CellFigures x = new CellFigures();
         for (int i = 1; i <= 6; i++) due("feed", x.feed(0, 0, 0, 0, 0), 20 * i);
         due("feed beyond 120", x.feed(0, 0, 0, 0, 0), NONE);
@@ -140,7 +73,7 @@ public final class PromisesTest {
     }
 
     private static void figure() {
-        promise = 3;
+        promise(3);
         CellFigures x = new CellFigures();
         due("figure, the tape empty", x.figure(0, 1), NONE);
         due("read", read(x, 0, "###/.#."), 4);
@@ -168,7 +101,7 @@ public final class PromisesTest {
     }
 
     private static void figureFaults() {
-        promise = 3;
+        promise(3);
         CellFigures x = with(T);
         due("another byte", read(x, 0, "##a"), -1002);
         due("another byte, first", read(x, 0, "x"), -1000);
@@ -188,7 +121,7 @@ public final class PromisesTest {
     }
 
     private static void put() {
-        promise = 4;
+        promise(4);
         CellFigures x = new CellFigures();
         due("put(0, 1)", x.put(0, 1), true);
         due("put(7, BAR_7)", x.put(7, BAR_7), true);
@@ -214,7 +147,7 @@ public final class PromisesTest {
     }
 
     private static void take() {
-        promise = 5;
+        promise(5);
         CellFigures x = with(T);
         due("take(0)", x.take(0), 1);
         due("take(0)", x.take(0), 0);
@@ -231,7 +164,7 @@ public final class PromisesTest {
     }
 
     private static void told() {
-        promise = 6;
+        promise(6);
         toldAll(ONE, 1, 1, 1, 4, 0, 0, 0, 4, 4, 0, 0, 1, 1, 8, 0);
         toldAll(TWO_DOWN, 2, 1, 2, 6, 0, 0, 0, 6, 4, 0, 0, 1, 1, 4, 1);
         toldAll(T, 4, 3, 2, 10, 0, 0, 1, 8, 6, 2, 0, 1, 1, 2, 3);
@@ -247,7 +180,7 @@ public final class PromisesTest {
     }
 
     private static void toldEdges() {
-        promise = 6;
+        promise(6);
         CellFigures x = new CellFigures();
         // Two rings of which each lacks the other's corner: their middles lie aslant and are two holes.
         due("two holes", read(x, 0, "###./#.##/##.#/.###"), 12);
@@ -278,7 +211,7 @@ public final class PromisesTest {
     }
 
     private static void cell() {
-        promise = 7;
+        promise(7);
         CellFigures x = with(T);
         due("cell(0, 0, 0)", x.cell(0, 0, 0), 1);
         due("cell(0, 1, 1)", x.cell(0, 1, 1), 1);
@@ -293,7 +226,7 @@ public final class PromisesTest {
     }
 
     private static void number() {
-        promise = 8;
+        promise(8);
         // J and L, which are one by FREE alone: the least of J's turns is 1031, of L's 263.
         long j = 1 + (7 << 8);
         CellFigures x = with(j, 1 + (1 << 8) + (3 << 16), PILLAR_7);
@@ -311,7 +244,7 @@ public final class PromisesTest {
     }
 
     private static void turn() {
-        promise = 9;
+        promise(9);
         // L: three in a row, one below the left. To the right a quarter: the row is a pillar, the one is left of its top.
         long[] turns = {
             263, 3 + (2 << 8) + (2 << 16), 4 + (7 << 8), 1 + (1 << 8) + (3 << 16),
@@ -338,7 +271,7 @@ public final class PromisesTest {
     }
 
     private static void alike() {
-        promise = 10;
+        promise(10);
         CellFigures x = with(L, 1 + (7 << 8), 4 + (7 << 8), T);
         due("alike(0, 0, 0)", x.alike(0, 0, 0), 1);
         due("alike(0, 2, 0)", x.alike(0, 2, 0), 0);
@@ -355,7 +288,7 @@ public final class PromisesTest {
     }
 
     private static void change() {
-        promise = 11;
+        promise(11);
         CellFigures x = with(BAR_3, BAR_7, THREE_BY_FOUR, ONE, PILLAR_7);
         due("change(0, 1, 1, true)", x.change(0, 1, 1, true), 4);
         due("number", x.number(0, 0), T);
@@ -392,7 +325,7 @@ public final class PromisesTest {
     }
 
     private static void list() {
-        promise = 12;
+        promise(12);
         int[][] sizes = {{1, 2, 6, 19, 63, 216, 760}, {1, 1, 2, 7, 18, 60, 196}, {1, 1, 2, 5, 12, 35, 108}};
         CellFigures x = new CellFigures();
         for (int n = 7; n >= 1; n--) {
@@ -405,7 +338,7 @@ public final class PromisesTest {
     }
 
     private static void listed() {
-        promise = 13;
+        promise(13);
         CellFigures x = new CellFigures();
         long[] threes = {7, 259, 515, 769, 770, 65793};
         for (int k = 0; k < 6; k++) due("listed(3, 0, " + k + ")", x.listed(3, 0, k), threes[k]);
@@ -421,11 +354,18 @@ public final class PromisesTest {
         due("listed(0, 0, 0)", x.listed(0, 0, 0), NONE);
         due("listed(8, 0, 0)", x.listed(8, 0, 0), NONE);
         due("listed(1, 3, 5)", x.listed(1, 3, 5), NONE);
-        for (int k = 1; k < 760; k++) due("rising at " + k, x.listed(7, 0, k) > x.listed(7, 0, k - 1), true);
+        // Two objects, as what one answers behind its 512th call is free.
+        long before = 0;
+        for (int k = 0; k < 760; k++) {
+            if (k == 400) x = new CellFigures();
+            long number = x.listed(7, 0, k);
+            due("rising at " + k, number > before, true);
+            before = number;
+        }
     }
 
     private static void place() {
-        promise = 14;
+        promise(14);
         CellFigures x = with(770, RING, PILLAR_7, 1 + (7 << 8));
         due("place(0, 0)", x.place(0, 0), 4);
         due("place(0, 1)", x.place(0, 1), 1);
@@ -445,7 +385,7 @@ public final class PromisesTest {
     }
 
     private static void many() {
-        promise = 15;
+        promise(15);
         CellFigures x = new CellFigures();
         due("many of 1 to 7 by cells", x.many(7, 0, 0, 7, 7), 760);
         due("many with SIDES 10", x.many(4, 2, 3, 10, 10), 4);
@@ -468,7 +408,7 @@ public final class PromisesTest {
     }
 
     private static void found() {
-        promise = 16;
+        promise(16);
         CellFigures x = new CellFigures();
         long[] tens = {15, 263, 519, 774};
         for (int k = 0; k < 4; k++) due("found, k " + k, x.found(4, 2, 3, 10, 10, k), tens[k]);
@@ -486,7 +426,7 @@ public final class PromisesTest {
     }
 
     private static void crowd() {
-        promise = 17;
+        promise(17);
         CellFigures x = new CellFigures();
         due("crowd by SIDES", x.crowd(4, 2, 3, true), 4);
         due("unlike SIDES", x.crowd(4, 2, 3, false), 2);
@@ -503,7 +443,7 @@ public final class PromisesTest {
     }
 
     private static void kin() {
-        promise = 18;
+        promise(18);
         CellFigures x = with(ONE, T, BAR_7, THREE_BY_FOUR, PILLAR_7, RING);
         due("kin(0, 0, true)", x.kin(0, 0, true), 2);
         due("kin(0, 2, true)", x.kin(0, 2, true), 1);
@@ -525,7 +465,7 @@ public final class PromisesTest {
     }
 
     private static void kinAt() {
-        promise = 19;
+        promise(19);
         CellFigures x = with(ONE, T, ANGLE);
         due("kinAt(0, 0, true, 0)", x.kinAt(0, 0, true, 0), TWO_ACROSS);
         due("kinAt(0, 0, true, 1)", x.kinAt(0, 0, true, 1), TWO_DOWN);
@@ -545,7 +485,7 @@ public final class PromisesTest {
     }
 
     private static void way() {
-        promise = 20;
+        promise(20);
         CellFigures x = with(BAR_4, SQUARE, T, PILLAR_7, ONE, TWO_DOWN, 63);
         due("way(0, 0)", x.way(0, 0), 0);
         due("way(0, 1)", x.way(0, 1), 2);
@@ -567,7 +507,7 @@ public final class PromisesTest {
     }
 
     private static void farthest() {
-        promise = 21;
+        promise(21);
         CellFigures x = with(T, ONE, BAR_4, BAR_7, 63, BAR_3);
         due("farthest(0, true)", x.farthest(0, true), 1);
         due("farthest(0, false)", x.farthest(0, false), 4);
@@ -585,7 +525,7 @@ public final class PromisesTest {
     }
 
     private static void drawn() {
-        promise = 22;
+        promise(22);
         CellFigures x = new CellFigures();
         due("drawn(0, 0, 1)", x.drawn(0, 0, 1), 1);
         // X is 13849, by 4 it is 3462: of four places the one at 2, to the right.
@@ -608,7 +548,7 @@ public final class PromisesTest {
     }
 
     private static void line() {
-        promise = 23;
+        promise(23);
         CellFigures x = with(ONE, T, CROSS, RING, OPEN_RING, U);
         String[] lines = {"0123", "0001212323", "010121232303"};
         for (int d = 0; d < 3; d++) {
@@ -635,7 +575,7 @@ public final class PromisesTest {
     }
 
     private static void tiles() {
-        promise = 24;
+        promise(24);
         CellFigures x = with(ONE, T, U, RING, SQUARE);
         int[] one = {2, 2, 0, 1, 1, 0};
         int[] t = {3, 0, 1, 1, 2, 2};
@@ -661,7 +601,7 @@ public final class PromisesTest {
     }
 
     private static void tilers() {
-        promise = 25;
+        promise(25);
         CellFigures x = new CellFigures();
         // As they are known: 1, 1, 2, 5, 9, 24, 41 free ones tile by moves alone.
         int[] free = {1, 1, 2, 5, 9, 24, 41};
@@ -676,7 +616,7 @@ public final class PromisesTest {
     }
 
     private static void fill() {
-        promise = 26;
+        promise(26);
         CellFigures x = with(TWO_ACROSS, TWO_DOWN, ONE, T, ANGLE, BAR_7, SQUARE);
         due("twos in 2 by 2", x.fill(2, 2, 1, true), 2);
         due("twos in 2 by 2 as they are", x.fill(2, 2, 1, false), 1);
@@ -719,7 +659,7 @@ public final class PromisesTest {
     }
 
     private static void vector() {
-        promise = 27;
+        promise(27);
         CellFigures x = with(ONE, T, U, RING);
         int[] one = {11, 11, 10, 11, 1};
         int[] t = {12, 11, 10, 12, 4};
@@ -738,7 +678,7 @@ public final class PromisesTest {
     }
 
     private static void owner() {
-        promise = 28;
+        promise(28);
         CellFigures x = with(ONE, T, U, RING);
         // By (1, 1) and (0, 1): (-20, 20) is 20 times back by the first and 40 times forth by the second.
         due("owner(0, -20, 20, 0)", x.owner(0, -20, 20, 0), 80);
@@ -769,7 +709,7 @@ public final class PromisesTest {
     }
 
     private static void part() {
-        promise = 29;
+        promise(29);
         partsOf(ONE, 1, 0, 0, 0, 0, 0, 1, 1);
         partsOf(TWO_DOWN, 2, 1, 1, 1, 1, 1, 1, 0);
         partsOf(BAR_3, 4, 0, 0, 0, 0, 2, 1, 1);
@@ -793,7 +733,7 @@ public final class PromisesTest {
     }
 
     private static void inside() {
-        promise = 30;
+        promise(30);
         CellFigures x = with(ONE, TWO_ACROSS, T, SQUARE, ANGLE, RING);
         due("inside(0, 2, false)", x.inside(0, 2, false), 4);
         due("inside(0, 2, true)", x.inside(0, 2, true), 4);
@@ -812,7 +752,7 @@ public final class PromisesTest {
     }
 
     private static void common() {
-        promise = 31;
+        promise(31);
         CellFigures x = with(BAR_4, SQUARE, T, L, RING, ONE, 1 + (7 << 8));
         due("common(0, 1)", x.common(0, 1), 2);
         due("common(2, 1)", x.common(2, 1), 3);
@@ -829,14 +769,14 @@ public final class PromisesTest {
     }
 
     private static void keepAndBack() {
-        promise = 32;
+        promise(32);
         CellFigures x = new CellFigures();
         for (int i = 1; i <= 10; i++) {
             x.put(0, (1 << i % 7 + 1) - 1);
             due("keep()", x.keep(), i);
         }
         due("an 11th keep()", x.keep(), NONE);
-        promise = 33;
+        promise(33);
         x.take(0);
         x.put(1, T);
         x.feed(0, 0, 0, 0, 0);
@@ -852,7 +792,7 @@ public final class PromisesTest {
     }
 
     private static void join() {
-        promise = 34;
+        promise(34);
         CellFigures x = with(BAR_3, ONE, TWO_DOWN, BAR_7, THREE_BY_FOUR);
         due("join(0, 1, 1, 1, true)", x.join(0, 1, 1, 1, true), 4);
         due("number", x.number(0, 0), T);
@@ -887,7 +827,7 @@ public final class PromisesTest {
     }
 
     private static void swap() {
-        promise = 35;
+        promise(35);
         CellFigures x = with(T, L, T);
         due("swap(0, 1)", x.swap(0, 1), 1);
         due("number(0, 0)", x.number(0, 0), L);
@@ -904,7 +844,7 @@ public final class PromisesTest {
     }
 
     private static void share() {
-        promise = 36;
+        promise(36);
         CellFigures x = with(TWO_ACROSS, U, ONE, BAR_7, PILLAR_7);
         due("one above the other", x.share(0, 0, 0, 1), 2);
         due("one above the other", x.share(0, 0, 0, -1), 2);
@@ -935,7 +875,7 @@ public final class PromisesTest {
     }
 
     private static void touch() {
-        promise = 37;
+        promise(37);
         CellFigures x = with(TWO_ACROSS, ONE, U, BAR_7);
         touchAll(x, 0, 0, 3, 8, 2, 10, 9, 4);
         touchAll(x, 1, 1, 1, 4, 1, 10, 9, 2);
@@ -954,7 +894,7 @@ public final class PromisesTest {
     }
 
     private static void count() {
-        promise = 38;
+        promise(38);
         CellFigures x = with(T, 0, 0, RING, 0, 0, 0, ONE);
         x.feed(0, 0, 0, 0, 0);
         due("count(0)", x.count(0), 1 + 8 + 128);
