@@ -20,6 +20,7 @@ public final class ListEdgesTest extends TestBase {
         placeRefused();
         many();
         manyRefused();
+        manyInAnyOrder();
         found();
         foundRefused();
         crowd();
@@ -154,6 +155,25 @@ public final class ListEdgesTest extends TestBase {
         }
         for (int[] a : new int[][] {{0, 0, 0}, {8, 0, 0}, {1, -1, 0}, {1, 3, 0}, {1, 0, -1}, {1, 0, 15}}) {
             unchanged("many, no such ones", () -> laden(T), NONE, x -> x.many(a[0], a[1], a[2], 0, 9));
+        }
+    }
+
+    /** One object asked for all that told() says, up and down: what it keeps of one answer must not spoil another. */
+    private static void manyInAnyOrder() {
+        says(15, "told() what (0 to 14)");
+        Model model = new Model();
+        for (int kind = 0; kind < 3; kind++) {
+            CellFigures x = new CellFigures();
+            for (int i = 0; i < 30; i++) {
+                int what = i < 15 ? i : 29 - i;
+                for (int value = 0; value < 9; value += 4) {
+                    String call = "many(6, " + kind + ", " + what + ", " + value + ", " + (value + 3) + ")";
+                    due(call, x.many(6, kind, what, value, value + 3), model.many(6, kind, what, value, value + 3));
+                }
+                due("tilers(6, " + kind + ")", x.tilers(6, kind), model.tilers(6, kind));
+                due("crowd(6, " + kind + ", " + what + ", true)", x.crowd(6, kind, what, true), model.crowd(6, kind, what, true));
+                due("crowd(5, " + kind + ", " + what + ", false)", x.crowd(5, kind, what, false), model.crowd(5, kind, what, false));
+            }
         }
     }
 

@@ -14,6 +14,7 @@ public final class PartEdgesTest extends TestBase {
         partOfFew();
         partOfTwelve();
         partHalves();
+        partOneByOne();
         partRefused();
         inside();
         insideRefused();
@@ -90,6 +91,23 @@ public final class PartEdgesTest extends TestBase {
         partAll(BAR_6, 32, 1, 1, 1, 1, 5, 1, 0);
         // An L and its mirror image: one by FREE alone.
         partAll(63 | 33 << 8, 128, 1, 0, 0, 1, 7, 1, 0);
+        // No cell at 0, 0: two twos across.
+        partAll(774, 8, 1, 1, 1, 1, 3, 1, 0);
+    }
+
+    /** Large and small figures by turns on one object: nothing of the one is left when the next is asked for. */
+    private static void partOneByOne() {
+        says(29, "Of a DRAWER's FIGURE");
+        long[] numbers = {THREE_BY_FOUR, ONE, CORNER_12, SQUARE, RING, TWO_DOWN, 774, T};
+        CellFigures x = with(numbers);
+        Model model = new Model();
+        for (int d = 0; d < 8; d++) model.put(d, numbers[d]);
+        for (int i = 0; i < 192; i++) {
+            int d = i * 5 % 8;
+            int what = i * 3 / 8 % 8;
+            due("part(" + d + ", " + what + ")", x.part(d, what), model.part(d, what));
+            due("line(" + d + ", " + what + ")", x.line(d, what), model.line(d, what));
+        }
     }
 
     private static void partRefused() {
@@ -165,6 +183,9 @@ public final class PartEdgesTest extends TestBase {
         shared(RING, BAR_4, 3);
         shared(BAR_7 | 65 << 8, BAR_7, 7);
         shared(BAR_7 | 65 << 8, 5 | 7 << 8, 4);
+        // Two parts are common, of which the one with the first cell is the smaller one.
+        shared(33766928, 201792560, 6);
+        shared(34612186116L, 139021, 7);
         for (int seed = 0; seed < 12; seed++) {
             Model model = new Model();
             CellFigures x = new CellFigures();

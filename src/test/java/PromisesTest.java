@@ -379,6 +379,7 @@ public final class PromisesTest extends TestBase {
         due("place(0, 3)", x.place(0, 3), NONE);
         due("place(8, 0)", x.place(8, 0), NONE);
         for (int k = 0; k < 196; k++) {
+            if (k % 100 == 0) x = new CellFigures();
             x.put(5, x.listed(7, 1, k));
             due("place of " + k, x.place(5, 1), k);
         }
