@@ -20,6 +20,8 @@ public final class LineEdgesTest extends TestBase {
         tilers();
         fillSizes();
         fillFigures();
+        fillByEachTurn();
+        fillMostFigures();
         fillOutside();
         fillTries();
         fillEmpty();
@@ -224,6 +226,28 @@ public final class LineEdgesTest extends TestBase {
         filled(1, 4, 3, 1, false, THREE_BY_FOUR);
         filled(0, 3, 4, 1, false, THREE_BY_FOUR);
         filled(1, 6, 4, 1, true, 7 | 7 << 8);
+    }
+
+    private static void fillByEachTurn() {
+        says(26, "in all TURNS");
+        // A square and one more at it: all eight turns are unlike, and go in wherever it is begun from.
+        long p = 3 | 3 << 8 | 1 << 16;
+        for (int t = 0; t < 8; t++) {
+            long turned = with(p).turn(0, t);
+            filled(2, 2, 5, 1, true, turned);
+            filled(2, 5, 2, 1, true, turned);
+            filled(6, 4, 5, 1, true, turned);
+            filled(0, 2, 5, 1, false, turned);
+        }
+    }
+
+    private static void fillMostFigures() {
+        says(26, "DRAWERS (bits, 1 to 255), in all TURNS: 64 unlike FIGURES at most");
+        // The last turn of the last drawer has the greatest number, and is in some of these ways.
+        filled(4, 2, 6, 255, true, 66318, 66823, 67333, 783, 131599, 1805, 131854, 7952);
+        filled(8, 3, 6, 255, true, 775, 67331, 69380, 783, 1295, 66823, 134659, 985096);
+        filled(4, 2, 6, 255, true, 7952, 66318, 66823, 67333, 783, 131599, 1805, 131854);
+        filled(0, 1, 1, 255, true, 66318, 66823, 67333, 783, 131599, 287, 1805, 131854);
     }
 
     private static void fillOutside() {

@@ -17,6 +17,7 @@ public final class PartEdgesTest extends TestBase {
         partOneByOne();
         partRefused();
         inside();
+        insideByEachTurn();
         insideRefused();
         common();
         commonRefused();
@@ -27,6 +28,7 @@ public final class PartEdgesTest extends TestBase {
         joinCells();
         joinTogether();
         joinLess();
+        joinEverywhere();
         joinRefused();
         swap();
         share();
@@ -149,6 +151,18 @@ public final class PartEdgesTest extends TestBase {
         // The end of a row and the begin of the next are not side by side.
         lies(TWO_ACROSS, 64 | BAR_7 << 8 | 1 << 16, 6, 8);
         lies(2 | 3 << 8 | 1 << 16, 64 | BAR_7 << 8 | 1 << 16, 0, 0);
+    }
+
+    private static void insideByEachTurn() {
+        says(30, "in all TURNS");
+        for (long number : new long[] {L, CORNER_12}) {
+            for (int t = 0; t < 8; t++) {
+                long turned = with(number).turn(0, t);
+                lies(number, turned, t == 0 ? 1 : 0, 1);
+                lies(turned, number, t == 0 ? 1 : 0, 1);
+                shared(number, turned, Long.bitCount(number));
+            }
+        }
     }
 
     private static void insideRefused() {
@@ -318,6 +332,12 @@ public final class PartEdgesTest extends TestBase {
         notJoined(ONE, PILLAR_7, 0, -7, true);
         notJoined(PILLAR_6, TWO_DOWN, 0, 6, true);
         notJoined(PILLAR_6, TWO_DOWN, 0, -2, true);
+        // No cell of a cross lies in the corners of its box: moved by seven both ways it would be out of all sight.
+        for (int[] m : new int[][] {{7, 7}, {-7, -7}, {7, -7}, {-7, 7}}) {
+            notJoined(CROSS, ONE, m[0], m[1], true);
+            notJoined(ONE, CROSS, m[0], m[1], true);
+            notJoined(CROSS, CROSS, m[0], m[1], true);
+        }
     }
 
     private static void joinCells() {
@@ -388,6 +408,32 @@ public final class PartEdgesTest extends TestBase {
         joined(BAR_7, PILLAR_7, 6, -6, false, BAR_6);
         joined(BAR_7, PILLAR_7, 0, -6, false, BAR_6);
         joined(BAR_7, PILLAR_7, 0, -7, false, BAR_7);
+    }
+
+    /** Every move of some twos of figures, more and less, and what they share there: as Model says. */
+    private static void joinEverywhere() {
+        says(34, "moved by (u, v) (-7 to 7)");
+        long[][] pairs = {
+            {CROSS, CROSS}, {CROSS, BAR_7}, {PILLAR_7, CROSS}, {CORNER_12, PILLAR_7 | 63L}, {HOOK, U}, {RING, T}, {ONE, HOOK},
+            {2 | 7 << 8, 2 | 7 << 8 | 2 << 16}, {BAR_6, PILLAR_6}
+        };
+        for (long[] pair : pairs) {
+            for (int i = 0; i < 225; i++) {
+                int u = i % 15 - 7;
+                int v = i / 15 - 7;
+                String call = pair[0] + " and " + pair[1] + ", by " + u + ", " + v;
+                for (boolean more : new boolean[] {true, false}) {
+                    CellFigures x = with(pair);
+                    Model model = new Model();
+                    model.put(0, pair[0]);
+                    model.put(1, pair[1]);
+                    due(call + ": share", x.share(0, 1, u, v), model.share(0, 1, u, v));
+                    due(call + ": join", x.join(0, 1, u, v, more), model.join(0, 1, u, v, more));
+                    due(call + ": number(0, 0)", x.number(0, 0), model.number(0, 0));
+                    due(call + ": number(1, 0)", x.number(1, 0), model.number(1, 0));
+                }
+            }
+        }
     }
 
     private static void joinRefused() {
