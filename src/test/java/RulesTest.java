@@ -131,7 +131,8 @@ public final class RulesTest extends TreePathScanner<Void, Void> {
         for (String due : FACE) if (!face.contains(due)) faults.add("the face lacks " + due);
         for (String there : face) if (!FACE.contains(there)) faults.add("the face has " + there);
         for (Field f : CellFigures.class.getDeclaredFields()) {
-            if (!Modifier.isPrivate(f.getModifiers()) && !f.getName().equals("NONE")) faults.add(f + " can be seen");
+            boolean none = f.toString().equals("public static final int CellFigures.NONE");
+            if (!Modifier.isPrivate(f.getModifiers()) && !none) faults.add(f + " can be seen");
         }
         Constructor<?>[] constructors = CellFigures.class.getDeclaredConstructors();
         if (constructors.length != 1 || constructors[0].getParameterCount() != 0) faults.add("other constructors");
